@@ -144,11 +144,18 @@ public final class ForecastTest {
         x.load(0);
         Check.due("count(2)", x.count(2), 1);
         dueLate(x, 1);
+        // One that is dropped must not be dropped again.
+        PileTickets again = new PileTickets();
+        again.takeIn(0, 1, 10, 10, false);
+        again.takeIn(0, 1, 8, 11, false);
+        again.takeIn(0, 1, 5, 12, false);
+        again.takeIn(0, 1, 8, 12, false);
+        dueLate(again, 3);
     }
 
     private static void fewestLateAgreesWithAllOrders() {
         int seed = 1;
-        for (int run = 0; run < 300; run++) {
+        for (int run = 0; run < 1000; run++) {
             PileTickets x = new PileTickets();
             int piles = run % 7;
             int[] time = new int[piles];
@@ -157,7 +164,7 @@ public final class ForecastTest {
                 seed = seed * 1103515245 + 12345;
                 time[pile] = 1 + (seed >>> 16) % (run % 2 == 0 ? 60 : 8);
                 seed = seed * 1103515245 + 12345;
-                promise[pile] = 1 + (seed >>> 16) % (run % 2 == 0 ? 150 : 25);
+                promise[pile] = 1 + (seed >>> 16) % (run % 2 == 0 ? 150 : run % 4 == 1 ? 25 : 15);
                 x.takeIn(seed >>> 28 & 3, 1, time[pile], promise[pile], (seed >>> 20 & 1) == 1);
             }
             dueLate(x, fewestOfOrders(time, promise, 0, 0, 0));

@@ -5,6 +5,7 @@ public final class SnapshotsTest {
         goBackRestoresAllButTheBuffer();
         snapshotStaysAndIsReplaced();
         slotsThrow();
+        undoRestoresEachStep();
         undoDropsTheLatest();
         onlySixAreSaved();
         undoLeavesBufferAndSlots();
@@ -108,6 +109,33 @@ public final class SnapshotsTest {
         x.keep(1);
         Check.dueThrow(x, "goBack(0)", Check.STATE, () -> x.goBack(0));
         Check.due("goBack(1)", x.goBack(1), 0);
+    }
+
+    private static void undoRestoresEachStep() {
+        PileTickets x = new PileTickets();
+        String[] before = new String[6];
+        x.takeIn(1, 5, 7, 6, false);
+        x.takeIn(2, 5, 5, 4, true);
+        x.rush(0);
+        before[0] = all(x);
+        x.load(1);
+        before[1] = all(x);
+        x.load(0);
+        before[2] = all(x);
+        x.pass(7);
+        before[3] = all(x);
+        x.handOut(100, 1);
+        before[4] = all(x);
+        x.takeIn(3, 2, 1, 9, true);
+        before[5] = all(x);
+        x.set(0, 9);
+        Check.due("count(7)", x.count(7), 2);
+        for (int left = 5; left >= 0; left--) {
+            Check.due("undo()", x.undo(), left);
+            Check.dueText("the house", all(x), before[left]);
+        }
+        Check.due("pileOf(0, 7)", x.pileOf(0, 7), -1);
+        Check.due("count(7)", x.count(7), 0);
     }
 
     private static void undoDropsTheLatest() {

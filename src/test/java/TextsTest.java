@@ -6,6 +6,7 @@ public final class TextsTest {
         errorsByPlace();
         errorIsSeenInALongText();
         readTakesPilesIn();
+        readTakesAFullBuffer();
         readGivesEachPileItsOwnRush();
         readStopsAtTheFirstRefusal();
         readThrows();
@@ -106,6 +107,16 @@ public final class TextsTest {
         Check.due("count(1)", x.count(1), 0);
         Check.due("clearBuffer()", x.clearBuffer(), 6);
         Check.due("takeIn", x.takeIn(0, 1, 1, 1, false), 100);
+    }
+
+    private static void readTakesAFullBuffer() {
+        PileTickets x = new PileTickets();
+        Check.type(x, "a12/34@567;b12/34@567;c12/34@567;d12/34@567;a1/34@567;b1/2@3");
+        Check.dueThrow(x, "append to a full buffer", Check.STATE, () -> x.append('!'));
+        Check.due("firstError()", x.firstError(), 60);
+        Check.due("read()", x.read(), 6);
+        Check.due("pileOf(5, 4)", x.pileOf(5, 4), 3);
+        Check.due("firstError()", x.firstError(), 0);
     }
 
     private static void readGivesEachPileItsOwnRush() {
