@@ -64,9 +64,9 @@ public final class LanguageTest {
 
     private static void callsMakeNoObjects() {
         ThreadMXBean threads = (ThreadMXBean) ManagementFactory.getThreadMXBean();
-        PileTickets x = Check.fullShelves();
+        PileTickets x = Scenes.fullShelves();
         x.handOut(100, 0);
-        Check.type(x, "a1/1@1;b2/2@2;");
+        Scenes.type(x, "a1/1@1;b2/2@2;");
         long hash = 0;
         threads.getCurrentThreadAllocatedBytes();
         long before = threads.getCurrentThreadAllocatedBytes();
