@@ -16,20 +16,24 @@ public final class ForecastTest {
     private static void waiting() {
         Sentences.test(21, "Tells which pile waits at a rank of the order.", ForecastTest::waitingFollowsTheOrder);
         Sentences.test(21, "`rank`: from 0", ForecastTest::waitingTakesEachRank);
-        Sentences.test(21, "Returns its place in the house; NONE if not so many wait.", ForecastTest::waitingBehindTheLast);
+        Sentences.test(21, "Returns its place in the house; NONE if not so many wait.",
+                ForecastTest::waitingBehindTheLast);
         Sentences.test(21, "Throws `IllegalArgumentException` if rank is below 0", ForecastTest::waitingThrows);
     }
 
     private static void ifLoaded() {
-        Sentences.test(22, "Tells what loading a machine would put in, if it was idle.", ForecastTest::ifLoadedOfMachinesThatRun);
+        Sentences.test(22, "Tells what loading a machine would put in, if it was idle.",
+                ForecastTest::ifLoadedOfMachinesThatRun);
         Sentences.test(22, "`machine`: 0 or 1", ForecastTest::ifLoadedTakesEachMachine);
         Sentences.test(22, "Returns the places of the piles, as a mask.", ForecastTest::ifLoadedTellsPlaces);
-        Sentences.test(22, "Throws `IndexOutOfBoundsException` if there is no such machine", ForecastTest::ifLoadedThrows);
+        Sentences.test(22, "Throws `IndexOutOfBoundsException` if there is no such machine",
+                ForecastTest::ifLoadedThrows);
     }
 
     private static void endsIn() {
         Sentences.test(23, "Tells when the next machine ends.", ForecastTest::endsInFollowsTheMachines);
-        Sentences.test(23, "Returns in how many minutes the earliest end of a machine that runs is,", ForecastTest::endsInOfTheEarliest);
+        Sentences.test(23, "Returns in how many minutes the earliest end of a machine that runs is,",
+                ForecastTest::endsInOfTheEarliest);
         Sentences.test(23, "0 if one has ended that still has piles;", ForecastTest::endsInOfAnEndedMachine);
         Sentences.test(23, "NONE if both are idle.", ForecastTest::endsInOfIdleMachines);
     }
@@ -67,7 +71,8 @@ public final class ForecastTest {
         Sentences.test(26, "fewestLate with 0, then with 1;", ForecastTest::digestOfLateOnes);
         Sentences.test(26, "the bits of lateShare (as Double.doubleToLongBits);", ForecastTest::digestOfShares);
         Sentences.test(26, "for each slot 1 if it has a snapshot, otherwise 0;", ForecastTest::digestOfSlots);
-        Sentences.test(26, "the length of the buffer and each of its character codes.", ForecastTest::digestOfTheBuffer);
+        Sentences.test(26, "the length of the buffer and each of its character codes.",
+                ForecastTest::digestOfTheBuffer);
         Sentences.test(26, "Returns the hash.", ForecastTest::digestOfABusyRoom);
     }
 
@@ -334,13 +339,16 @@ public final class ForecastTest {
             int[][] piles = new int[run % 11][2];
             for (int[] pile : piles) {
                 seed = seed * 1103515245 + 12345;
-                pile[0] = 1 + (seed >>> 16) % (run % 2 == 0 ? 60 : 8);
+                pile[0] = 1 + (seed >>> 16) % (run % 2 == 0 ? 60 : run % 4 == 1 ? 8 : 3);
                 seed = seed * 1103515245 + 12345;
                 pile[1] = 1 + (seed >>> 16) % (run % 2 == 0 ? 150 : run % 4 == 1 ? 25 : 15);
                 x.takeIn(seed >>> 28 & 3, 1, pile[0], pile[1], (seed >>> 20 & 1) == 1);
             }
+            // By then some of the promises may be past.
+            x.pass(1 + run % 7);
             Arrays.sort(piles, Comparator.comparingInt(pile -> pile[1]));
-            int due = piles.length < 7 ? fewestOfOrders(piles, 0, 0, 0) : piles.length - mostInTime(piles, 0, 0);
+            int due = piles.length < 7 ? fewestOfOrders(piles, 0, 1 + run % 7, 0)
+                    : piles.length - mostInTime(piles, 0, 1 + run % 7);
             Check.due("fewestLate(" + what + ") of run " + run, x.fewestLate(what), due);
         }
     }
@@ -436,7 +444,8 @@ public final class ForecastTest {
     private static void lateShareDivides() {
         for (int piles = 1; piles <= 8; piles++) {
             for (int late = 0; late <= piles; late++) {
-                Check.dueShare("lateShare() of " + late + " in " + piles, shelved(piles, late).lateShare(), (double) late / piles);
+                double share = shelved(piles, late).lateShare();
+                Check.dueShare("lateShare() of " + late + " in " + piles, share, (double) late / piles);
             }
         }
         Check.dueShare("lateShare() of full shelves", Scenes.fullShelves().lateShare(), 0.0);

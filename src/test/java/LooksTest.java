@@ -18,17 +18,21 @@ public final class LooksTest {
         Sentences.test(16, "3: its washing time;", () -> dueTakenIn(3, 1, 2, 59, 60));
         Sentences.test(16, "4: its promise, as a clock;", LooksTest::pilePromise);
         Sentences.test(16, "5: 1 if it is a rush, otherwise 0;", LooksTest::pileRush);
-        Sentences.test(16, "6: 0 if it waits, 1 if it is in a machine, 2 if it stands on a shelf;", LooksTest::pileState);
+        Sentences.test(16, "6: 0 if it waits, 1 if it is in a machine, 2 if it stands on a shelf;",
+                LooksTest::pileState);
         Sentences.test(16, "7: the machine or the shelf, NONE if it waits;", LooksTest::pileMachineOrShelf);
         Sentences.test(16, "8: how many waiting piles are ahead of it in the order, NONE if it does not wait;",
                 LooksTest::pileRank);
-        Sentences.test(16, "9: the clock at which it was put on its shelf, NONE without one;", LooksTest::pileShelfClock);
+        Sentences.test(16, "9: the clock at which it was put on its shelf, NONE without one;",
+                LooksTest::pileShelfClock);
         Sentences.test(16, "10: the fee, as if it was handed out now (late only if it stands on a shelf, and was put there late)",
                 LooksTest::pileFee);
         Sentences.test(16, "Returns the property;", LooksTest::pileOfTellsAllAtTheirGreatest);
         Sentences.test(16, "NONE for all if there is no pile at the place.", LooksTest::pileOfAnEmptyPlace);
-        Sentences.test(16, "Throws `IndexOutOfBoundsException` if there is no such place", LooksTest::pileOfThrowsWithoutPlace);
-        Sentences.test(16, "Throws `IllegalArgumentException` if what is not 0 to 10", LooksTest::pileOfThrowsOutOfRange);
+        Sentences.test(16, "Throws `IndexOutOfBoundsException` if there is no such place",
+                LooksTest::pileOfThrowsWithoutPlace);
+        Sentences.test(16, "Throws `IllegalArgumentException` if what is not 0 to 10",
+                LooksTest::pileOfThrowsOutOfRange);
     }
 
     private static void machineOf() {
@@ -41,8 +45,10 @@ public final class LooksTest {
         Sentences.test(17, "4: the clock at which it ends or ended, NONE if it is idle;", LooksTest::machineEnd);
         Sentences.test(17, "5: how often it was loaded so far", LooksTest::machineLoads);
         Sentences.test(17, "Returns the property.", LooksTest::machineOfTellsFullMachines);
-        Sentences.test(17, "Throws `IndexOutOfBoundsException` if there is no such machine", LooksTest::machineOfThrowsWithoutMachine);
-        Sentences.test(17, "Throws `IllegalArgumentException` if what is not 0 to 5", LooksTest::machineOfThrowsOutOfRange);
+        Sentences.test(17, "Throws `IndexOutOfBoundsException` if there is no such machine",
+                LooksTest::machineOfThrowsWithoutMachine);
+        Sentences.test(17, "Throws `IllegalArgumentException` if what is not 0 to 5",
+                LooksTest::machineOfThrowsOutOfRange);
     }
 
     private static void shelf() {

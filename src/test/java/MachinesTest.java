@@ -24,8 +24,10 @@ public final class MachinesTest {
         Sentences.test(6, "`machine`: 0 or 1", MachinesTest::roomTakesEachMachine);
         Sentences.test(6, "`room`: 10 to 60", MachinesTest::roomTakesEachRoom);
         Sentences.test(6, "Returns the room before.", MachinesTest::roomTellsTheOneBefore);
-        Sentences.test(6, "Throws `IndexOutOfBoundsException` if there is no such machine", MachinesTest::roomThrowsWithoutMachine);
-        Sentences.test(6, "Throws `IllegalArgumentException` if room is out of range", MachinesTest::roomThrowsOutOfRange);
+        Sentences.test(6, "Throws `IndexOutOfBoundsException` if there is no such machine",
+                MachinesTest::roomThrowsWithoutMachine);
+        Sentences.test(6, "Throws `IllegalArgumentException` if room is out of range",
+                MachinesTest::roomThrowsOutOfRange);
         Sentences.test(6, "Throws `IllegalStateException` if it is not idle", MachinesTest::roomThrowsIfNotIdle);
     }
 
@@ -36,8 +38,10 @@ public final class MachinesTest {
         Sentences.test(7, "Undoable.", MachinesTest::passIsUndoable);
         Sentences.test(7, "`minutes`: 1 to 240", MachinesTest::passTakesEachNumber);
         Sentences.test(7, "Returns how many piles are put on shelves in them.", MachinesTest::passCountsPiles);
-        Sentences.test(7, "Throws `IllegalArgumentException` if minutes is out of range", MachinesTest::passThrowsOutOfRange);
-        Sentences.test(7, "Throws `IllegalStateException` if the clock would be above 99999", MachinesTest::passThrowsAtTheLastClock);
+        Sentences.test(7, "Throws `IllegalArgumentException` if minutes is out of range",
+                MachinesTest::passThrowsOutOfRange);
+        Sentences.test(7, "Throws `IllegalStateException` if the clock would be above 99999",
+                MachinesTest::passThrowsAtTheLastClock);
     }
 
     private static void set() {
@@ -46,8 +50,10 @@ public final class MachinesTest {
         Sentences.test(8, "`setting`: 0 or 1", MachinesTest::setTakesEachSetting);
         Sentences.test(8, "`value`: the new value", MachinesTest::setTakesEachValue);
         Sentences.test(8, "Returns the previous value.", MachinesTest::setTellsTheValueBefore);
-        Sentences.test(8, "Throws `IndexOutOfBoundsException` if there is no such setting", MachinesTest::setThrowsWithoutSetting);
-        Sentences.test(8, "Throws `IllegalArgumentException` if value is out of range", MachinesTest::setThrowsOutOfRange);
+        Sentences.test(8, "Throws `IndexOutOfBoundsException` if there is no such setting",
+                MachinesTest::setThrowsWithoutSetting);
+        Sentences.test(8, "Throws `IllegalArgumentException` if value is out of range",
+                MachinesTest::setThrowsOutOfRange);
     }
 
     // ---- load

@@ -1,7 +1,8 @@
 /** Promises 1 to 4: a new object, takeIn, handOut, rush. */
 public final class PilesTest {
     public static void main(String[] args) {
-        Sentences.test(1, "Creates an empty house at the clock 0, with empty slots and an empty buffer.", PilesTest::newObject);
+        Sentences.test(1, "Creates an empty house at the clock 0, with empty slots and an empty buffer.",
+                PilesTest::newObject);
         takeIn();
         handOut();
         rush();
@@ -35,7 +36,8 @@ public final class PilesTest {
         Sentences.test(4, "Undoable.", PilesTest::rushIsUndoable);
         Sentences.test(4, "`place`: 0 to 9", PilesTest::rushTakesEachPlace);
         Sentences.test(4, "Returns 1 if it is a rush then, otherwise 0.", PilesTest::rushAnswers);
-        Sentences.test(4, "Throws `IndexOutOfBoundsException` if there is no pile at the place", PilesTest::rushThrowsWithoutPile);
+        Sentences.test(4, "Throws `IndexOutOfBoundsException` if there is no pile at the place",
+                PilesTest::rushThrowsWithoutPile);
         Sentences.test(4, "Throws `IllegalStateException` if it does not wait", PilesTest::rushThrowsIfItDoesNotWait);
     }
 

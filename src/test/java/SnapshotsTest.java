@@ -21,8 +21,10 @@ public final class SnapshotsTest {
         Sentences.test(14, "Undoable.", SnapshotsTest::goBackIsUndoable);
         Sentences.test(14, "`slot`: 0 or 1", SnapshotsTest::goBackTakesEachSlot);
         Sentences.test(14, "Returns the clock then.", SnapshotsTest::goBackTellsTheClock);
-        Sentences.test(14, "Throws `IllegalArgumentException` if slot is out of range", SnapshotsTest::goBackThrowsOutOfRange);
-        Sentences.test(14, "Throws `IllegalStateException` if there is no snapshot in it", SnapshotsTest::goBackThrowsWithoutSnapshot);
+        Sentences.test(14, "Throws `IllegalArgumentException` if slot is out of range",
+                SnapshotsTest::goBackThrowsOutOfRange);
+        Sentences.test(14, "Throws `IllegalStateException` if there is no snapshot in it",
+                SnapshotsTest::goBackThrowsWithoutSnapshot);
     }
 
     private static void undo() {

@@ -2,8 +2,6 @@ import java.util.function.ToIntFunction;
 
 /** What the document says ahead of promise 1: the terms that several promises share. */
 public final class TermsTest {
-    private static final int TERMS = Sentences.TERMS;
-
     public static void main(String[] args) {
         numbersAndPiles();
         machines();
@@ -14,92 +12,106 @@ public final class TermsTest {
         snapshots();
         exceptions();
         looks();
-        Sentences.end(TERMS);
+        Sentences.end(Sentences.TERMS);
+    }
+
+    private static void sentence(String words, Runnable test) {
+        Sentences.test(Sentences.TERMS, words, test);
     }
 
     private static void numbersAndPiles() {
-        Sentences.test(TERMS, "An object is used for at most 512 calls after it has been made; what later calls answer is free.",
+        sentence("An object is used for at most 512 calls after it has been made; what later calls answer is free.",
                 TermsTest::call512IsAnswered);
-        Sentences.test(TERMS, "The constants: `NONE = -1`: There is nothing to return.", TermsTest::noneIsMinusOne);
-        Sentences.test(TERMS, "All numbers are integers, but for a share; divisions are rounded down.", TermsTest::divisionsAreRoundedDown);
-        Sentences.test(TERMS, "There are at most 10 piles in the house, at the places 0 to 9.", TermsTest::tenPilesAtTenPlaces);
-        Sentences.test(TERMS, "A pile has a ticket, a colour, 0 to 3, a weight, 1 to 20, a washing time, 1 to 60 minutes, a promise, "
+        sentence("The constants: `NONE = -1`: There is nothing to return.", TermsTest::noneIsMinusOne);
+        sentence("All numbers are integers, but for a share; divisions are rounded down.",
+                TermsTest::divisionsAreRoundedDown);
+        sentence("There are at most 10 piles in the house, at the places 0 to 9.",
+                TermsTest::tenPilesAtTenPlaces);
+        sentence("A pile has a ticket, a colour, 0 to 3, a weight, 1 to 20, a washing time, 1 to 60 minutes, a promise, "
                 + "the clock at which it should be done, and is a rush or not.", TermsTest::leastAndGreatestPile);
-        Sentences.test(TERMS, "It waits (0), is in a machine (1), or stands on a shelf (2).", TermsTest::statesOfAPile);
-        Sentences.test(TERMS, "A pile that is taken in gets the lowest free place, and the next ticket:", TermsTest::lowestPlaceAndNextTicket);
-        Sentences.test(TERMS, "tickets are numbered from 100 on, each number once, also when piles were handed out.",
+        sentence("It waits (0), is in a machine (1), or stands on a shelf (2).", TermsTest::statesOfAPile);
+        sentence("A pile that is taken in gets the lowest free place, and the next ticket:",
+                TermsTest::lowestPlaceAndNextTicket);
+        sentence("tickets are numbered from 100 on, each number once, also when piles were handed out.",
                 TermsTest::eachTicketOnce);
-        Sentences.test(TERMS, "The order of waiting piles: rushes ahead of others, then the earlier promise ahead of a later one, "
+        sentence("The order of waiting piles: rushes ahead of others, then the earlier promise ahead of a later one, "
                 + "then the lesser ticket ahead of a greater one.", TermsTest::orderOfWaitingPiles);
     }
 
     private static void machines() {
-        Sentences.test(TERMS, "There are 2 machines, numbered from 0, with a room, 10 to 60, at first 30 and 40.", TermsTest::twoMachines);
-        Sentences.test(TERMS, "A machine is idle, or it runs until a clock.", TermsTest::idleUpToLoadAndFromItsEnd);
-        Sentences.test(TERMS, "To load an idle machine: the first one of the waiting piles in their order whose weight is at most "
+        sentence("There are 2 machines, numbered from 0, with a room, 10 to 60, at first 30 and 40.",
+                TermsTest::twoMachines);
+        sentence("A machine is idle, or it runs until a clock.", TermsTest::idleUpToLoadAndFromItsEnd);
+        sentence("To load an idle machine: the first one of the waiting piles in their order whose weight is at most "
                 + "its room is put in;", TermsTest::firstLightPileIsPutIn);
-        Sentences.test(TERMS, "then, of the others in their order, each that has the same colour, and whose weight the machine has "
+        sentence("then, of the others in their order, each that has the same colour, and whose weight the machine has "
                 + "room for beside those in it.", TermsTest::othersOfTheColourThatFit);
-        Sentences.test(TERMS, "It runs as long as the longest washing time of those in it tells, from now on.", TermsTest::runsForTheLongest);
+        sentence("It runs as long as the longest washing time of those in it tells, from now on.",
+                TermsTest::runsForTheLongest);
     }
 
     private static void shelves() {
-        Sentences.test(TERMS, "There are 8 shelves, numbered from 0; on each stands at most one pile.", TermsTest::eightShelves);
-        Sentences.test(TERMS, "When the clock comes to the end of a machine, its piles, by ascending tickets, are put on the lowest "
+        sentence("There are 8 shelves, numbered from 0; on each stands at most one pile.",
+                TermsTest::eightShelves);
+        sentence("When the clock comes to the end of a machine, its piles, by ascending tickets, are put on the lowest "
                 + "free shelves.", TermsTest::ascendingTicketsOnLowestShelves);
-        Sentences.test(TERMS, "As long as a pile finds none, it stays in the machine, which is not idle;", TermsTest::staysInTheMachine);
-        Sentences.test(TERMS, "it is tried anew whenever a shelf becomes free, within handOut() itself, at the clock of then,",
+        sentence("As long as a pile finds none, it stays in the machine, which is not idle;",
+                TermsTest::staysInTheMachine);
+        sentence("it is tried anew whenever a shelf becomes free, within handOut() itself, at the clock of then,",
                 TermsTest::triedAnewWithinHandOut);
-        Sentences.test(TERMS, "the machine 0 first.", TermsTest::machineZeroIsTriedFirst);
-        Sentences.test(TERMS, "A pile is late if it is put on a shelf at a clock later than its promise.", TermsTest::lateIsBehindThePromise);
+        sentence("the machine 0 first.", TermsTest::machineZeroIsTriedFirst);
+        sentence("A pile is late if it is put on a shelf at a clock later than its promise.",
+                TermsTest::lateIsBehindThePromise);
     }
 
     private static void feesAndHandingOut() {
-        Sentences.test(TERMS, "The fee of a pile is setting 0 times its weight;", () -> dueFees(false, false));
-        Sentences.test(TERMS, "half of that more if it is a rush;", () -> dueFees(true, false));
-        Sentences.test(TERMS, "and if it is late, a quarter of the sum less.", TermsTest::feesOfLatePiles);
-        Sentences.test(TERMS, "A pile is handed out for a ticket and a shelf, if none of these is so, the first of which is the reason:",
+        sentence("The fee of a pile is setting 0 times its weight;", () -> dueFees(false, false));
+        sentence("half of that more if it is a rush;", () -> dueFees(true, false));
+        sentence("and if it is late, a quarter of the sum less.", TermsTest::feesOfLatePiles);
+        sentence("A pile is handed out for a ticket and a shelf, if none of these is so, the first of which is the reason:",
                 TermsTest::handedOutForTicketAndShelf);
-        Sentences.test(TERMS, "1: no pile stands on the shelf;", TermsTest::reasonOfAFreeShelf);
-        Sentences.test(TERMS, "2: the pile there has another ticket.", TermsTest::reasonOfAnotherTicket);
+        sentence("1: no pile stands on the shelf;", TermsTest::reasonOfAFreeShelf);
+        sentence("2: the pile there has another ticket.", TermsTest::reasonOfAnotherTicket);
     }
 
     private static void settings() {
-        Sentences.test(TERMS, "0: what a weight of 1 costs, 1 to 9, at first 3;", TermsTest::priceOfAWeight);
-        Sentences.test(TERMS, "1: whether rushes go first (1) or are in the order as others (0), at first 1.", TermsTest::rushesFirstOrNot);
+        sentence("0: what a weight of 1 costs, 1 to 9, at first 3;", TermsTest::priceOfAWeight);
+        sentence("1: whether rushes go first (1) or are in the order as others (0), at first 1.",
+                TermsTest::rushesFirstOrNot);
     }
 
     private static void texts() {
-        Sentences.test(TERMS, "The buffer has at most 60 characters.", TermsTest::bufferOfSixty);
-        Sentences.test(TERMS, "Piles as a text are one or more of these with \";\" between them:", TermsTest::pilesWithSeparators);
-        Sentences.test(TERMS, "a letter for the colour, \"a\" to \"d\" (for 0 to 3), a weight, 1 to 20, \"/\", a washing time, 1 to 60, "
+        sentence("The buffer has at most 60 characters.", TermsTest::bufferOfSixty);
+        sentence("Piles as a text are one or more of these with \";\" between them:",
+                TermsTest::pilesWithSeparators);
+        sentence("a letter for the colour, \"a\" to \"d\" (for 0 to 3), a weight, 1 to 20, \"/\", a washing time, 1 to 60, "
                 + "\"@\", in how many minutes it is promised, 1 to 999, and then perhaps \"!\" (a rush).", TermsTest::partsOfAPile);
-        Sentences.test(TERMS, "Numbers are without leading zeros.", TermsTest::noLeadingZeros);
-        Sentences.test(TERMS, "The buffer is read from left to right; a character is a syntax error if no piles as a text, of any "
+        sentence("Numbers are without leading zeros.", TermsTest::noLeadingZeros);
+        sentence("The buffer is read from left to right; a character is a syntax error if no piles as a text, of any "
                 + "length, begin with the characters before it and this character.", TermsTest::errorIfNothingBeginsSo);
     }
 
     private static void snapshots() {
-        Sentences.test(TERMS, "There are two slots; a snapshot is all but the buffer, the slots and the saved states.",
+        sentence("There are two slots; a snapshot is all but the buffer, the slots and the saved states.",
                 TermsTest::snapshotIsAllBut);
-        Sentences.test(TERMS, "Each method that is marked \"undoable\" and does not throw an exception saves the state from before it "
+        sentence("Each method that is marked \"undoable\" and does not throw an exception saves the state from before it "
                 + "(also if it changes nothing, or is refused):", TermsTest::whichMethodsSave);
-        Sentences.test(TERMS, "all, also what is counted so far, but the buffer, the slots and the saved states.",
+        sentence("all, also what is counted so far, but the buffer, the slots and the saved states.",
                 TermsTest::savedStateIsAllBut);
-        Sentences.test(TERMS, "At most 6 states are saved; the oldest one is dropped first.", TermsTest::sixAreSaved);
+        sentence("At most 6 states are saved; the oldest one is dropped first.", TermsTest::sixAreSaved);
     }
 
     private static void exceptions() {
-        Sentences.test(TERMS, "A call that throws an exception changes nothing (the buffer stays as it is, too).",
+        sentence("A call that throws an exception changes nothing (the buffer stays as it is, too).",
                 TermsTest::throwingChangesNothing);
-        Sentences.test(TERMS, "If several exceptions apply, the one that is named first in the throws clause is thrown.",
+        sentence("If several exceptions apply, the one that is named first in the throws clause is thrown.",
                 TermsTest::firstNamedIsThrown);
     }
 
     private static void looks() {
-        Sentences.test(TERMS, "Ahead of the calls `pileOf`, `machineOf`, `shelf`, `count`, `setting` the interface says: "
+        sentence("Ahead of the calls `pileOf`, `machineOf`, `shelf`, `count`, `setting` the interface says: "
                 + "---- looks; nothing is changed.", TermsTest::looksChangeNothing);
-        Sentences.test(TERMS, "Ahead of the calls `waiting`, `ifLoaded`, `endsIn`, `fewestLate`, `lateShare`, `digest` the interface "
+        sentence("Ahead of the calls `waiting`, `ifLoaded`, `endsIn`, `fewestLate`, `lateShare`, `digest` the interface "
                 + "says: ---- what would be; nothing is changed.", TermsTest::forecastsChangeNothing);
     }
 
@@ -709,23 +721,34 @@ public final class TermsTest {
 
     // ---- snapshots, undo
 
+    /** Leaves nothing of a busy room as it was; the clock is 53 then, and 2 of 3 piles were put on shelves late. */
+    private static void changeAll(PileTickets x) {
+        x.set(0, 9);
+        x.set(1, 0);
+        x.handOut(100, 0);
+        x.handOut(100, 0);
+        x.rush(2);
+        x.room(0, 10);
+        x.load(0);
+        x.takeIn(3, 20, 60, 999, true);
+        x.pass(44);
+    }
+
     private static void snapshotIsAllBut() {
         PileTickets x = Scenes.busy();
         x.keep(1);
         String kept = Scenes.all(x);
-        x.pass(11);
-        x.handOut(100, 0);
+        changeAll(x);
         Scenes.type(x, "1@");
+        x.keep(0);
         x.undo();
         x.undo();
         Check.due("goBack(1)", x.goBack(1), 9);
         Check.dueText("the room", Scenes.all(x), kept);
+        Check.due("count(9)", x.count(9), 0);
         Check.due("count(10), as the saved states are no part of it", x.count(10), 5);
         Check.due("clearBuffer(), as the buffer is no part of it", x.clearBuffer(), 5);
-        Check.due("goBack(0), as the slots are no part of it", x.goBack(0), 3);
-        Check.due("undo()", x.undo(), 5);
-        Check.due("undo()", x.undo(), 4);
-        Check.due("count(0) ahead of both", x.count(0), 9);
+        Check.due("goBack(0), as the slots are no part of it", x.goBack(0), 53);
     }
 
     private static void dueSaving(String call, boolean isSaving, ToIntFunction<PileTickets> run) {
@@ -781,30 +804,19 @@ public final class TermsTest {
 
     private static void savedStateIsAllBut() {
         PileTickets x = Scenes.busy();
-        x.set(0, 9);
-        x.handOut(100, 7);
-        String before = Scenes.all(x);
-        x.pass(44);
-        Check.due("count(7)", x.count(7), 2);
-        x.handOut(100, 0);
-        x.handOut(100, 0);
         x.keep(1);
+        changeAll(x);
+        String changed = Scenes.all(x);
+        x.goBack(1);
+        x.keep(0);
         Scenes.type(x, "1@");
-        x.undo();
-        x.undo();
+        Check.due("undo()", x.undo(), 5);
+        Check.dueText("the room", Scenes.all(x), changed);
         Check.due("count(9)", x.count(9), 1);
-        Check.due("count(8)", x.count(8), 0);
-        Check.due("undo()", x.undo(), 3);
-        Check.dueText("the room", Scenes.all(x), before);
+        Check.dueShare("lateShare()", x.lateShare(), 2.0 / 3);
         Check.due("clearBuffer(), as the buffer is no part of it", x.clearBuffer(), 5);
-        Check.due("goBack(1), as the slots are no part of it", x.goBack(1), 53);
-        Check.due("count(10), as the saved states are no part of it", x.count(10), 4);
-        x.undo();
-        x.pass(44);
-        x.load(0);
-        x.pass(6);
-        // What was put on shelves is counted back, too: it is 3 late ones of 3, and not of more.
-        Check.dueShare("lateShare()", x.lateShare(), 1.0);
+        Check.due("goBack(0), as the slots are no part of it", x.goBack(0), 9);
+        Check.due("count(10), as the saved states are no part of it", x.count(10), 6);
     }
 
     private static void sixAreSaved() {

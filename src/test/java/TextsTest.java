@@ -14,8 +14,10 @@ public final class TextsTest {
         Sentences.test(9, "Appends a character to the buffer.", TextsTest::appendAppends);
         Sentences.test(9, "`code`: the character code, 33 to 126", TextsTest::appendTakesEachCode);
         Sentences.test(9, "Returns the new length of the buffer.", TextsTest::appendTellsTheLength);
-        Sentences.test(9, "Throws `IllegalArgumentException` if code is not 33 to 126", TextsTest::appendThrowsOutOfRange);
-        Sentences.test(9, "Throws `IllegalStateException` if the buffer has 60 characters", TextsTest::appendThrowsIfFull);
+        Sentences.test(9, "Throws `IllegalArgumentException` if code is not 33 to 126",
+                TextsTest::appendThrowsOutOfRange);
+        Sentences.test(9, "Throws `IllegalStateException` if the buffer has 60 characters",
+                TextsTest::appendThrowsIfFull);
     }
 
     private static void clearBuffer() {
@@ -25,17 +27,21 @@ public final class TextsTest {
 
     private static void firstError() {
         Sentences.test(11, "Finds the first syntax error of the buffer.", TextsTest::errorsByPlace);
-        Sentences.test(11, "Returns the index of the first character that is a syntax error;", TextsTest::errorAtEitherEnd);
+        Sentences.test(11, "Returns the index of the first character that is a syntax error;",
+                TextsTest::errorAtEitherEnd);
         Sentences.test(11, "the length of the buffer if there is none.", TextsTest::noErrorTellsTheLength);
     }
 
     private static void read() {
-        Sentences.test(12, "Takes in the piles in the buffer as takeIn() does, one after the other,", TextsTest::readTakesPilesIn);
-        Sentences.test(12, "up to the first one that is refused (and counted so),", TextsTest::readStopsAtTheFirstRefusal);
+        Sentences.test(12, "Takes in the piles in the buffer as takeIn() does, one after the other,",
+                TextsTest::readTakesPilesIn);
+        Sentences.test(12, "up to the first one that is refused (and counted so),",
+                TextsTest::readStopsAtTheFirstRefusal);
         Sentences.test(12, "and clears the buffer.", TextsTest::readClearsTheBuffer);
         Sentences.test(12, "Undoable, as one call, also if none is taken in.", TextsTest::readIsUndoable);
         Sentences.test(12, "Returns how many are taken in.", TextsTest::readTellsHowMany);
-        Sentences.test(12, "Throws `IllegalArgumentException` if the buffer does not tell piles as a text", TextsTest::readThrows);
+        Sentences.test(12, "Throws `IllegalArgumentException` if the buffer does not tell piles as a text",
+                TextsTest::readThrows);
     }
 
     // ---- append, clearBuffer
