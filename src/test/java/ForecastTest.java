@@ -454,6 +454,22 @@ public final class ForecastTest {
         full.handOut(100, 0);
         Check.dueShare("lateShare() with one put there by handOut()", full.lateShare(), 1.0 / 9);
         Check.dueShare("lateShare() of 1 in 112", manyShelved().lateShare(), 1.0 / 112);
+        lateSharesOneByOne();
+    }
+
+    /** Each pile is washed and handed out by itself, and two of three are late. */
+    private static void lateSharesOneByOne() {
+        PileTickets x = new PileTickets();
+        int late = 0;
+        for (int piles = 1; piles <= 80; piles++) {
+            late += piles % 3 == 0 ? 0 : 1;
+            x.takeIn(0, 1, 2, piles % 3 == 0 ? 2 : 1, false);
+            x.load(0);
+            x.pass(2);
+            Check.dueShare("lateShare() of " + late + " in " + piles, x.lateShare(), (double) late / piles);
+            x.handOut(99 + piles, 0);
+            Check.dueShare("the same, handed out", x.lateShare(), (double) late / piles);
+        }
     }
 
     private static PileTickets manyShelved() {
